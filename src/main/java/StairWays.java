@@ -290,7 +290,6 @@ public final class StairWays {
         long number = drawBelow(DRAWN);
         number = number * DRAWN + drawBelow(DRAWN);
         number = number * DRAWN + drawBelow(DRAWN);
-        ghost.follow(hand);
         return strideOf(number % all, i);
     }
 
@@ -368,6 +367,7 @@ public final class StairWays {
         }
     }
 
+    /** Lawful ways that go on so; the ghost stands there then. */
     private long manyFrom(Climber climber) {
         ways.beginAll(told);
         ghost.follow(climber);
@@ -1218,52 +1218,49 @@ public final class StairWays {
             }
             long sum = 0;
             for (int k = 0; k < on.kindsOfStride; k++) {
-                int stride = on.strides[k];
-                if (isOpen(on, climber, stride)) {
-                    climber.go(on, stride);
-                    sum += from(on, climber, depth + 1);
-                    climber.undo(on);
-                }
+                sum += behind(on, climber, on.strides[k], depth + 1);
             }
             answers[place] = sum;
             return sum;
+        }
+
+        /** Lawful ways that go on with this stride. */
+        private long behind(Stair on, Climber climber, int stride, int depth) {
+            if (!isOpen(on, climber, stride)) {
+                return 0;
+            }
+            climber.go(on, stride);
+            long number = from(on, climber, depth);
+            climber.undo(on);
+            return number;
         }
 
         /** Lawful ways that go on with a lesser stride than this one. */
         long ahead(Stair on, Climber climber, int stride) {
             long sum = 0;
             for (int k = 0; k < on.kindsOfStride && on.strides[k] < stride; k++) {
-                if (isOpen(on, climber, on.strides[k])) {
-                    climber.go(on, on.strides[k]);
-                    sum += from(on, climber, 0);
-                    climber.undo(on);
-                }
+                sum += behind(on, climber, on.strides[k], 0);
             }
             return sum;
         }
 
-        /** The i-th stride of the way of a number; the climber goes up to there. */
+        /** The i-th stride of the way of a number, below all from there; the climber goes on up to it. */
         int strideAt(Stair on, Climber climber, long number, int i) {
             long left = number;
             for (int n = 0; n <= i && n < MOST_STEPS && climber.at < on.top; n++) {
                 int chosen = NONE;
                 for (int k = 0; k < on.kindsOfStride && chosen == NONE; k++) {
-                    int stride = on.strides[k];
-                    if (!isOpen(on, climber, stride)) {
-                        continue;
-                    }
-                    climber.go(on, stride);
-                    long here = from(on, climber, 0);
+                    long here = behind(on, climber, on.strides[k], 0);
                     if (left < here) {
-                        chosen = stride;
+                        chosen = on.strides[k];
                     } else {
                         left -= here;
-                        climber.undo(on);
                     }
                 }
                 if (n == i || chosen == NONE) {
                     return chosen;
                 }
+                climber.go(on, chosen);
             }
             return NONE;
         }

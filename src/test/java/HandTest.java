@@ -57,6 +57,11 @@ public final class HandTest {
             due.is("weight " + stride, -1, x.weight(stride));
         }
         due.is("where", 9, x.count(1));
+        x = Due.on("stair 40 ; strides 12 1 ; bar 12 12 ; bar 1 12 ;");
+        due.is("at first nothing is ahead", true, x.stride(12));
+        due.is("barred behind 12", false, x.may(12));
+        due.is("1 behind 12", true, x.stride(1));
+        due.is("barred behind 1", false, x.may(12));
         x = Due.on("stair 9 ; strides 5 ;");
         due.is("not told", false, x.stride(1));
         due.is("told", true, x.stride(5));

@@ -89,6 +89,12 @@ public final class ReadTest {
         fault("stair 12345 ;", 1, 6);
         fault("stairs 7 ;", 1, 0);
         fault("Stair 7 ;", 1, 0);
+        fault("stairz 7 ;", 1, 0);
+        fault("astair 7 ;", 1, 0);
+        fault("stair` 7 ;", 1, 5);
+        fault("stair{ 7 ;", 1, 5);
+        fault("stair 7/ ;", 1, 7);
+        fault("stair 7: ;", 1, 7);
         fault("stair 7 , strides 1 ;", 1, 8);
         fault("stair 7 ; stridesstrides 1 ;", 1, 10);
         fault("stair 7 ; mood stridestep ;", 1, 15);
@@ -208,6 +214,7 @@ public final class ReadTest {
         last("stair 7 ; bar ;", 1);
         last("stair 7 ; bar 1 2 3", 1);
         last("stair 7 ; bar 1 2 ; bar 2 1 ; bar 1 2", 3);
+        last("stair 7 ; bar 12 12 ; bar 12 12", 3);
     }
 
     private static void words() {
@@ -236,6 +243,12 @@ public final class ReadTest {
         last("stair 7 ; mood ( ( ( ( ( and", 1);
         last("stair 7 ; mood ( not ( not ( last", 5);
         last("stair 7 ; mood 1 + ( ( ( ( not 1", 5);
+        for (String ahead : new String[] {"1 and", "1 or", "1 <", "1 =", "1 +", "1 -", "1 *", "1 and 2 < 3 + 4 *"}) {
+            last("stair 7 ; mood " + ahead + " not not not not not 1", 5);
+            last("stair 7 ; mood not ( " + ahead + " not not not 1", 5);
+            last("stair 7 ; mood " + ahead + " ;", 1);
+            right("stair 7 ; mood not ( " + ahead + " not not 1 ) ;");
+        }
         last("stair 7 ; mood ;", 1);
         last("stair 7 ; mood and", 1);
         last("stair 7 ; mood )", 1);
