@@ -292,6 +292,11 @@ public final class CallEdgeTest {
             due.is("many on '" + texts[i] + "'", want[i], Due.on(texts[i]).many());
             due.is("fit on '" + texts[i] + "'", want[i], Due.on(texts[i]).fit());
         }
+        // the five by the longest stride: 6 6 6 6, 6 6 12, 6 12 6, 12 6 6, 12 12
+        due.is("6 behind 12 is barred", 3, Due.on("stair 24 ; strides 12 6 ; bar 12 6 ;").many());
+        due.is("12 behind 12 is barred", 4, Due.on("stair 24 ; strides 12 6 ; bar 12 12 ;").many());
+        due.is("12 behind 6 is barred", 3, Due.on("stair 24 ; strides 12 6 ; bar 6 12 ;").many());
+        due.is("at most one of 12 or more", 4, Due.on("stair 24 ; strides 12 6 ; great 12 times 1 ;").many());
     }
 
     /** "how many LAWFUL WAYS there are that go on so from where one is": at the foot, in a dead end, at the top. */
