@@ -21,6 +21,15 @@ public final class FarModelTest {
             wide += new FarModelTest(new Model(chance, 40)).play(chance) > 1000 ? 1 : 0;
         }
         due.is("many stairs have more than 1,000 ways", true, wide > 100);
+        for (int foot = -1; foot <= 1; foot++) {
+            for (int longest = 6; longest <= 12; longest += 6) {
+                for (int least = 0; least <= 16; least += 8) {
+                    new FarModelTest(Model.fullest(longest, least, 39, foot)).play(new Random(least));
+                    new FarModelTest(Model.fullest(longest, least, 40, foot)).play(new Random(least));
+                    new FarModelTest(Model.fullest(longest, least, 17, foot)).play(new Random(least));
+                }
+            }
+        }
         due.end();
     }
 

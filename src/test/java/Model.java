@@ -55,6 +55,45 @@ final class Model {
         text = all.toString();
     }
 
+    /** A stair with nothing told yet but its steps: who makes it fills in what the text tells. */
+    Model(int top, String text) {
+        this.top = top;
+        this.text = text;
+        kinds = new int[top + 1];
+        dusts = new int[top + 1];
+    }
+
+    /** Forty steps, six strides with a bar behind each, all limits at their most: no stair has more to be carried up it. */
+    static Model fullest(int longest, int least, int most, int foot) {
+        StringBuilder text = new StringBuilder("stair 40;creaks 4;great 3 times 4;count " + least + " to " + most + ";strides");
+        StringBuilder lines = new StringBuilder(foot == -1 ? "" : foot == 1 ? "foot left;" : "foot right;");
+        int[] strides = {longest, 2, 3, 4, 5, 1};
+        for (int stride : strides) {
+            text.append(' ').append(stride);
+            lines.append("bar ").append(stride).append(' ').append(stride == 1 ? 2 : stride).append(';');
+        }
+        for (int step = 1; step < 40; step += 2) {
+            lines.append("creak ").append(step).append(';');
+        }
+        Model model = new Model(40, text + ";" + lines + "mood stride+last*2-taken;");
+        for (int stride : strides) {
+            model.strides.add(stride);
+            model.bars.add(stride * 100 + (stride == 1 ? 2 : stride));
+        }
+        java.util.Collections.sort(model.strides);
+        for (int step = 1; step < 40; step += 2) {
+            model.kinds[step] = 2;
+        }
+        model.creaks = 4;
+        model.great = 3;
+        model.greatTimes = 4;
+        model.least = least;
+        model.most = most;
+        model.foot = foot;
+        model.mood = (stride, last, step, taken) -> stride + last * 2 - taken;
+        return model;
+    }
+
     private void drawStrides(Random chance, List<String> lines) {
         if (chance.nextInt(3) == 0) {
             strides.addAll(List.of(1, 2));
