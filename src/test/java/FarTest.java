@@ -21,6 +21,7 @@ public final class FarTest {
         crowds();
         two();
         fewest();
+        fewestByLongChains();
         games();
         due.end();
     }
@@ -337,6 +338,22 @@ public final class FarTest {
             due.is("fewest on " + text, want, x.fewest());
         }
         due.is("many runs need three", true, found > 100);
+    }
+
+    /** Almost all steps are trodden: to join one of them more than twenty others have to move aside. */
+    private static void fewestByLongChains() {
+        swept("1 3 7 8 11 12", "121102121111111111111110212111111111121", 2);
+        swept("1 5", "120211112101111211011111111111111112201", 2);
+        swept("1 3 9", "121122121121122121111121111111111101121", 3);
+        swept("1 3 4 8 9 11", "121112212112111111111111111111111111121", 2);
+    }
+
+    private static void swept(String strides, String dusts, int want) {
+        StairWays x = Due.on("stair 40 ; strides " + strides + " ;");
+        for (int i = 0; i < dusts.length(); i++) {
+            due.is("dust", true, x.dust(i + 1, dusts.charAt(i) - '0'));
+        }
+        due.is("fewest by " + strides + " on " + dusts, want, x.fewest());
     }
 
     private static void games() {
